@@ -513,7 +513,10 @@ public final class EdgeBench {
         }
     }
 
-    /** The SIDES of a VIEW: the edges of the cone of its WEIGHTS. */
+    /**
+     * The SIDES of a VIEW: the edges of the cone of its WEIGHTS. Their numbers are determinants of at most four rows
+     * and stay below 2^24, weighed ones below 2^31: longs hold all products of two of these.
+     */
     private static final class Cone {
         private static final int WIDTH = MOST_THINGS + 1;
         /**

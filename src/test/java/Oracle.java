@@ -1,7 +1,11 @@
 import java.math.BigInteger;
 import java.util.ArrayList;
 import java.util.Arrays;
+import java.util.HashMap;
 import java.util.List;
+import java.util.Map;
+import java.util.Optional;
+import java.util.function.Supplier;
 
 /**
  * The document said again, plainly and slowly, with nothing of the class in it: SHARES, COST, PEERS and STRONG by
@@ -13,7 +17,8 @@ final class Oracle {
     private final List<int[]> low = new ArrayList<>();
     private final List<int[]> high = new ArrayList<>();
     private final List<Boolean> there = new ArrayList<>();
-    private final List<List<BigInteger[]>> known = new ArrayList<>(Arrays.asList(null, null, null));
+    private final Map<Integer, List<BigInteger[]>> knownSides = new HashMap<>();
+    private final Map<String, Optional<Ratio>> knownRatios = new HashMap<>();
 
     boolean start(int ins, int outs) {
         if (ins < 1 || ins > 2 || outs < 1 || outs > 2) {
@@ -72,7 +77,7 @@ final class Oracle {
     }
 
     long share(int view, int work, int what) {
-        return isHeld(view, work) ? part(shareOf(view, told(), parts(), work), what) : -1;
+        return isHeld(view, work) ? part(toldShare(view, work), what) : -1;
     }
 
     int strong(int view, int work) {
@@ -80,7 +85,7 @@ final class Oracle {
             return -1;
         }
         int[][] rows = told();
-        if (shareOf(view, rows, parts(), work).compareTo(Ratio.ONE) != 0) {
+        if (toldShare(view, work).compareTo(Ratio.ONE) != 0) {
             return 0;
         }
         if (view == 3) {
@@ -105,7 +110,7 @@ final class Oracle {
             return -1;
         }
         int[][] rows = told();
-        Ratio share = shareOf(view, rows, parts(), work);
+        Ratio share = toldShare(view, work);
         if (view == 3) {
             return isWay(rows, other, work, share) ? 1 : 0;
         }
@@ -121,11 +126,11 @@ final class Oracle {
         if (!isHeld(0, work)) {
             return 2;
         }
-        Ratio free = shareOf(0, told(), parts(), work);
-        if (free.compareTo(shareOf(2, told(), parts(), work)) == 0) {
+        Ratio free = toldShare(0, work);
+        if (free.compareTo(toldShare(2, work)) == 0) {
             return 0;
         }
-        return free.compareTo(shareOf(1, told(), parts(), work)) == 0 ? 1 : -1;
+        return free.compareTo(toldShare(1, work)) == 0 ? 1 : -1;
     }
 
     long above(int view, int work, int what) {
@@ -134,7 +139,7 @@ final class Oracle {
         }
         List<Integer> others = parts();
         others.remove((Integer) work);
-        return part(shareOf(view, told(), others, work), what);
+        return part(once("above " + view + " " + work, () -> shareOf(view, told(), others, work)), what);
     }
 
     long cost(int view, int work, int first, int second, int what) {
@@ -170,7 +175,8 @@ final class Oracle {
         if (!isHeld(view, work) || count(4) > 4) {
             return -1;
         }
-        return part(spanFrom(0, told(), view, work, greatest), what);
+        String name = "span " + view + " " + work + " " + greatest;
+        return part(once(name, () -> spanFrom(0, told(), view, work, greatest)), what);
     }
 
     int sides(int view) {
@@ -194,7 +200,7 @@ final class Oracle {
             taken = thing < ins ? taken.add(weighed) : taken;
             given = thing < ins ? given : given.add(weighed);
         }
-        Ratio share = shareOf(view, told(), parts(), work);
+        Ratio share = toldShare(view, work);
         return taken.signum() > 0 && given.multiply(share.bottom()).equals(taken.multiply(share.top())) ? 1 : 0;
     }
 
@@ -210,9 +216,20 @@ final class Oracle {
     }
 
     private void forget() {
-        for (int view = 0; view < 3; view++) {
-            known.set(view, null);
+        knownSides.clear();
+        knownRatios.clear();
+    }
+
+    /** What was reckoned since the last change is not reckoned again. */
+    private Ratio once(String name, Supplier<Ratio> reckoned) {
+        if (!knownRatios.containsKey(name)) {
+            knownRatios.put(name, Optional.ofNullable(reckoned.get()));
         }
+        return knownRatios.get(name).orElse(null);
+    }
+
+    private Ratio toldShare(int view, int work) {
+        return once("share " + view + " " + work, () -> shareOf(view, told(), parts(), work));
     }
 
     private boolean isWork(int work) {
@@ -385,7 +402,7 @@ final class Oracle {
     }
 
     private List<BigInteger[]> allSides(int view) {
-        if (known.get(view) == null) {
+        if (!knownSides.containsKey(view)) {
             int things = ins + outs;
             int width = view == 0 ? things : things + 1;
             List<long[]> bounds = new ArrayList<>();
@@ -409,9 +426,9 @@ final class Oracle {
                 }
                 bounds.add(bound);
             }
-            known.set(view, edges(bounds, width, things + 1));
+            knownSides.put(view, edges(bounds, width, things + 1));
         }
-        return known.get(view);
+        return knownSides.get(view);
     }
 
     private static List<BigInteger[]> edges(List<long[]> bounds, int width, int length) {

@@ -1,6 +1,9 @@
 import java.util.Random;
 
-/** Runs of calls from fixed seeds on an object and on the oracle: all promises, told numbers of all kinds. */
+/**
+ * Runs of calls from fixed seeds on an object and on the oracle: all promises, told numbers of all kinds. An argument
+ * asks for another number of seeds.
+ */
 public final class OracleTest {
     private static final int MOST_SHOWN = 20;
     private static int wrong;
@@ -17,12 +20,14 @@ public final class OracleTest {
     }
 
     public static void main(String[] args) {
-        for (int seed = 0; seed < 150; seed++) {
+        int seeds = args.length == 0 ? 100 : Integer.parseInt(args[0]);
+        for (int seed = 0; seed < seeds; seed++) {
             int[] mosts = {2, 4, 9, 30};
             new OracleTest(seed, mosts[seed % 4]).play(2 + seed % 5);
         }
-        for (int seed = 0; seed < 6; seed++) {
-            new OracleTest(seed, 30).playFull();
+        for (int seed = 0; seed < 8; seed++) {
+            new OracleTest(seed, seed < 4 ? 30 : 7).playFull(1 + seed % 2, 1 + seed / 2 % 2);
+            new OracleTest(seed, seed < 4 ? 30 : 7).playMissing();
         }
         System.out.println(wrong == 0 ? "all answers are as due" : wrong + " answers are not as due");
         if (wrong != 0) {
@@ -45,12 +50,31 @@ public final class OracleTest {
         }
     }
 
-    private void playFull() {
-        begin(2, 2);
+    /** All works that a bench has room for, and one more. */
+    private void playFull(int ins, int outs) {
+        begin(ins, outs);
         for (int i = 0; i < 13; i++) {
             add();
         }
         checkAll(false);
+    }
+
+    /** Up to more MISSING numbers than SPAN allows. */
+    private void playMissing() {
+        begin(2, 2);
+        for (int i = 0; i < 3; i++) {
+            add();
+        }
+        for (int i = 0; i < 7; i++) {
+            int work = i % 3;
+            int thing = i / 3 + random.nextInt(2);
+            int low = 1 + random.nextInt(most - 2);
+            due("missing(" + work + ", " + thing + ", " + low + ", " + (low + 1) + ")",
+                bench.missing(work, thing, low, low + 1), oracle.missing(work, thing, low, low + 1));
+            checkAll(i > 2);
+        }
+        due("set(0, false)", bench.set(0, false), oracle.set(0, false));
+        checkAll(true);
     }
 
     private void begin(int ins, int outs) {

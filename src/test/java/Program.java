@@ -113,7 +113,9 @@ final class Program {
         for (int r = 0; r < basis.length; r++) {
             Ratio factor = table[r][column];
             for (int c = 0; r != row && factor.sign() != 0 && c <= columns; c++) {
-                table[r][c] = table[r][c].minus(factor.times(table[row][c]));
+                if (table[row][c].sign() != 0) {
+                    table[r][c] = table[r][c].minus(factor.times(table[row][c]));
+                }
             }
         }
         basis[row] = column;

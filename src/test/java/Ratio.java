@@ -10,6 +10,9 @@ record Ratio(BigInteger top, BigInteger bottom) implements Comparable<Ratio> {
     }
 
     private static Ratio of(BigInteger top, BigInteger bottom) {
+        if (bottom.equals(BigInteger.ONE)) {
+            return new Ratio(top, bottom);
+        }
         BigInteger divisor = top.gcd(bottom);
         if (bottom.signum() < 0) {
             divisor = divisor.negate();
@@ -18,14 +21,20 @@ record Ratio(BigInteger top, BigInteger bottom) implements Comparable<Ratio> {
     }
 
     Ratio plus(Ratio other) {
+        if (sign() == 0 || other.sign() == 0) {
+            return sign() == 0 ? other : this;
+        }
         return of(top.multiply(other.bottom).add(other.top.multiply(bottom)), bottom.multiply(other.bottom));
     }
 
     Ratio minus(Ratio other) {
-        return plus(other.times(of(-1)));
+        return plus(new Ratio(other.top.negate(), other.bottom));
     }
 
     Ratio times(Ratio other) {
+        if (sign() == 0 || other.sign() == 0) {
+            return ZERO;
+        }
         return of(top.multiply(other.top), bottom.multiply(other.bottom));
     }
 
