@@ -95,9 +95,9 @@ public final class LanguageTest {
             }
         }
         due(want.equals(got), "the face is " + got);
-        for (Method method : EdgeBench.class.getDeclaredMethods()) {
-            boolean isHidden = Modifier.isPrivate(method.getModifiers());
-            due(!isHidden || !names.contains(method.getName()), method + " bears a public name");
+        checkNames(EdgeBench.class, names);
+        for (Class<?> inside : EdgeBench.class.getDeclaredClasses()) {
+            checkNames(inside, names);
         }
         Constructor<?>[] makers = EdgeBench.class.getDeclaredConstructors();
         due(makers.length == 1 && Modifier.isPublic(makers[0].getModifiers()), "not one public constructor");
@@ -105,6 +105,14 @@ public final class LanguageTest {
         for (Field field : EdgeBench.class.getDeclaredFields()) {
             boolean isFace = field.getName().equals("NONE");
             due(isFace == !Modifier.isPrivate(field.getModifiers()), field + " is in the face, or not");
+        }
+    }
+
+    private static void checkNames(Class<?> some, Set<String> names) {
+        for (Method method : some.getDeclaredMethods()) {
+            boolean isHidden = Modifier.isPrivate(method.getModifiers());
+            due(isHidden || some == EdgeBench.class, method + " is not private");
+            due(!isHidden || !names.contains(method.getName()), method + " bears a public name");
         }
     }
 

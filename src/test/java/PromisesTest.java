@@ -1,12 +1,5 @@
 /** Each promise by hand: ordinary calls, the edges that the document names, and calls that are refused. */
-public final class PromisesTest {
-    private static final int FREE = 0;
-    private static final int LEAST = 1;
-    private static final int EVEN = 2;
-    private static final int WHOLE = 3;
-    private static final int NONE = -1;
-    private static int wrong;
-
+public final class PromisesTest extends Checks {
     public static void main(String[] args) {
         newObject();
         start();
@@ -34,44 +27,7 @@ public final class PromisesTest {
         side();
         suits();
         count();
-        System.out.println(wrong == 0 ? "all answers are as due" : wrong + " answers are not as due");
-        if (wrong != 0) {
-            System.exit(1);
-        }
-    }
-
-    private static void due(int promise, String call, long got, long want) {
-        if (got != want) {
-            wrong++;
-            System.out.println("promise " + promise + ": " + call + " answered " + got + ", due is " + want);
-        }
-    }
-
-    private static void due(int promise, String call, boolean got, boolean want) {
-        due(promise, call, got ? 1 : 0, want ? 1 : 0);
-    }
-
-    private static void dueRow(int promise, EdgeBench x, int view, int i, int... want) {
-        for (int k = 0; k < want.length; k++) {
-            due(promise, "side(" + view + ", " + i + ", " + k + ")", x.side(view, i, k), want[k]);
-        }
-        due(promise, "side beyond the LAST", x.side(view, i, want.length), NONE);
-    }
-
-    private static void dueShare(EdgeBench x, int view, int work, long top, long bottom) {
-        due(7, "share(" + view + ", " + work + ", 0)", x.share(view, work, 0), top);
-        due(7, "share(" + view + ", " + work + ", 1)", x.share(view, work, 1), bottom);
-    }
-
-    private static void dueAbove(EdgeBench x, int view, int work, long top, long bottom) {
-        due(11, "above(" + view + ", " + work + ", 0)", x.above(view, work, 0), top);
-        due(11, "above(" + view + ", " + work + ", 1)", x.above(view, work, 1), bottom);
-    }
-
-    private static void dueSpan(EdgeBench x, int view, int work, boolean greatest, long top, long bottom) {
-        String call = "span(" + view + ", " + work + ", " + greatest + ", ";
-        due(13, call + "0)", x.span(view, work, greatest, 0), top);
-        due(13, call + "1)", x.span(view, work, greatest, 1), bottom);
+        finish();
     }
 
     /** One IN, one OUT; 1 is the best, 0 too small, 2 too great, 3 dull and small. */
