@@ -132,8 +132,9 @@ public final class SidesTest extends Checks {
 
     /** "In order, the one first that has the greater number where they first differ." */
     private static void sidesInOrder() {
-        EdgeBench x = bench(2, 2, row(3, 7, 2, 9), row(6, 2, 8, 1), row(9, 9, 9, 9), row(4, 4, 3, 3), row(1, 9, 5, 0));
+        int[][] works = {{3, 7, 2, 9}, {6, 2, 8, 1}, {9, 9, 9, 9}, {4, 4, 3, 3}, {1, 9, 5, 0}};
         for (int view = FREE; view <= EVEN; view++) {
+            EdgeBench x = bench(2, 2, works);
             for (int i = 1; i < x.sides(view); i++) {
                 int k = 0;
                 while (k < 4 && x.side(view, i - 1, k) == x.side(view, i, k)) {
